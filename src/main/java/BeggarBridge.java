@@ -10,7 +10,7 @@ public final class BeggarBridge {
     private static final int BRIDGES = 8, BEGGARS = 9, PLACES = 8;
     private static final int MOST = 99, DAYS_AHEAD = 60, TURN_DAYS = 20, MOST_TURNS = 3, MOVE_DAYS = 20;
     private static final int NOWHERE = -1, NOBODY = 9, ALL = -1;
-    private static final int MOST_GIFT = 9999, MOST_ALMS = 9;
+    private static final int MOST_FINE = 9999, MOST_ALMS = 9;
 
     private static final int SPAN = 0, SOUND = 1, ALMS = 2, MEANS = 3, ASKS = 4, SPENDS = 5, SITS = 6,
             POOR = 7, DAY = 8, FROM = 9, TO = 10;
@@ -134,7 +134,7 @@ public final class BeggarBridge {
             return thought.soundOf(county, number, n);
         }
         if (what == 1 && county.hasBeggar(number)) {
-            return thought.behind(n).read(number, MEANS);
+            return thought.meansOf(number, n);
         }
         return BAD;
     }
@@ -226,20 +226,31 @@ public final class BeggarBridge {
         if (refusal != FINE) {
             return refusal;
         }
-        int most = ofMeans ? MOST : MOST_ALMS;
-        int fitting = 0;
+        return ofMeans ? fitting(shelf, bridge, number, MEANS, what == 0)
+                : fitting(shelf, bridge, number, ALMS, what == 2);
+    }
+
+    private int fitting(int shelf, int bridge, int number, int sort, boolean howMany) {
+        int most = sort == MEANS ? MOST : MOST_ALMS;
+        // what is no matter to the BRIDGE need be tried only once
+        boolean matters = sort == MEANS ? county.read(number, SITS) == bridge : number == bridge;
+        int found = 0;
         int least = NOT;
+        boolean so = false;
         for (int v = most; v >= 0; v--) {
-            if (thought.isSoWith(number, ofMeans ? MEANS : ALMS, v, bridge, shelves, shelf)) {
-                fitting++;
+            if (v == most || matters) {
+                so = thought.isSoWith(number, sort, v, bridge, shelves, shelf);
+            }
+            if (so) {
+                found++;
                 least = v;
             }
         }
-        return what % 2 == 0 ? fitting : least;
+        return howMany ? found : least;
     }
 
     public int fined(int beggar, int v) {
-        if (!county.hasBeggar(beggar) || !isWithin(v, 0, MOST_GIFT)) {
+        if (!county.hasBeggar(beggar) || !isWithin(v, 0, MOST_FINE)) {
             return BAD;
         }
         int all = 0;
@@ -281,7 +292,7 @@ public final class BeggarBridge {
 
     public int day() {
         int before = county.standing();
-        county.passDay(law, 0, county.bridges);
+        county.passDay(law);
         int after = county.standing();
         ledger.add(LED_DAYS, 1);
         ledger.add(LED_FELL, Integer.bitCount(before & ~after));
@@ -575,14 +586,18 @@ public final class BeggarBridge {
         void tally() {
             Arrays.fill(poorOn, 0);
             Arrays.fill(richOn, 0);
-            for (int b = 0; b < beggars; b++) {
-                int k = seat[b];
-                if (hasBridge(k)) {
-                    if (means[b] <= poor) {
-                        poorOn[k]++;
-                    } else {
-                        richOn[k]++;
-                    }
+            for (int b = 0; b < beggars && b < BEGGARS; b++) {
+                tallyOne(b);
+            }
+        }
+
+        private void tallyOne(int b) {
+            int k = seat[b];
+            if (hasBridge(k)) {
+                if (means[b] <= poor) {
+                    poorOn[k]++;
+                } else {
+                    richOn[k]++;
                 }
             }
         }
@@ -594,17 +609,27 @@ public final class BeggarBridge {
             return law.crack(span[k], poorOn[k], richOn[k], alms[k], today, sound[k]);
         }
 
+        void passDay(Law law) {
+            passDayAt(NOWHERE, bridges, law);
+        }
+
         /**
-         * A DAY for the BRIDGES first .. end - 1: no BRIDGE touches another one,
-         * so a question about one need not crack them all.
+         * A DAY for the seats first .. end - 1 (-1: nowhere) and who sits there: no seat touches
+         * another one, so a question about one BRIDGE need not go through them all.
          */
-        void passDay(Law law, int first, int end) {
-            tally();
+        void passDayAt(int first, int end, Law law) {
+            for (int k = Math.max(first, 0); k < end && k < bridges; k++) {
+                poorOn[k] = 0;
+                richOn[k] = 0;
+            }
             // MEANS ahead of SOUND: who sits on a BRIDGE that falls today still has today's ALMS
-            for (int b = 0; b < beggars; b++) {
+            for (int b = 0; b < beggars && b < BEGGARS; b++) {
                 int k = seat[b];
-                int gets = hasBridge(k) && sound[k] > 0 ? Math.min(alms[k], asks[b]) : 0;
-                means[b] = held(means[b] + gets - spends[b], MOST);
+                if (k >= first && k < end) {
+                    tallyOne(b);
+                    int gets = hasBridge(k) && sound[k] > 0 ? Math.min(alms[k], asks[b]) : 0;
+                    means[b] = held(means[b] + gets - spends[b], MOST);
+                }
             }
             for (int k = Math.max(first, 0); k < end && k < bridges; k++) {
                 if (sound[k] > 0) {
@@ -923,7 +948,7 @@ public final class BeggarBridge {
         County behind(int n) {
             trial.copyOf(now);
             for (int d = 0; d < n; d++) {
-                trial.passDay(law, 0, trial.bridges);
+                trial.passDay(law);
             }
             return trial;
         }
@@ -931,7 +956,7 @@ public final class BeggarBridge {
         int soundOf(County start, int bridge, int n) {
             trial.copyOf(start);
             for (int d = 0; d < n && stands(trial, bridge); d++) {
-                trial.passDay(law, bridge, bridge + 1);
+                trial.passDayAt(bridge, bridge + 1, law);
             }
             return trial.read(bridge, SOUND);
         }
@@ -942,7 +967,7 @@ public final class BeggarBridge {
                 if (!stands(trial, bridge)) {
                     return d;
                 }
-                trial.passDay(law, bridge, bridge + 1);
+                trial.passDayAt(bridge, bridge + 1, law);
             }
             return NOT;
         }
@@ -959,18 +984,28 @@ public final class BeggarBridge {
                 if (fallen != 0) {
                     return Integer.numberOfTrailingZeros(fallen);
                 }
-                trial.passDay(law, 0, trial.bridges);
+                trial.passDay(law);
             }
             return NOT;
         }
 
+        int meansOf(int beggar, int n) {
+            int at = now.read(beggar, SITS);
+            trial.copyOf(now);
+            for (int d = 0; d < n; d++) {
+                trial.passDayAt(at, at + 1, law);
+            }
+            return trial.read(beggar, MEANS);
+        }
+
         int richDay(int beggar) {
+            int at = now.read(beggar, SITS);
             trial.copyOf(now);
             for (int d = 0; d <= DAYS_AHEAD; d++) {
                 if (trial.savings(beggar) > 0) {
                     return d;
                 }
-                trial.passDay(law, 0, trial.bridges);
+                trial.passDayAt(at, at + 1, law);
             }
             return NOT;
         }
@@ -1036,7 +1071,7 @@ public final class BeggarBridge {
                 if (shelves.at(shelf, i) != trial.read(bridge, SOUND)) {
                     return i;
                 }
-                trial.passDay(law, bridge, bridge + 1);
+                trial.passDayAt(bridge, bridge + 1, law);
             }
             return NOT;
         }
@@ -1050,7 +1085,7 @@ public final class BeggarBridge {
 
         /** How many BRIDGES STAND at the ends of n counties of m days; of one BRIDGE: how often. */
         int drawnStanding(int seed, int n, int m, int luck, int bridge) {
-            int first = bridge == ALL ? 0 : bridge;
+            int first = bridge == ALL ? NOWHERE : bridge;
             int end = bridge == ALL ? now.bridges : bridge + 1;
             int stood = 0;
             int z = seed;
@@ -1061,7 +1096,7 @@ public final class BeggarBridge {
                     if ((z >>> 24) % 12 < luck && trial.beggars > 0) {
                         trial.raise((z >>> 8) % trial.beggars, MEANS, (z >>> 16) % 30);
                     }
-                    trial.passDay(law, first, end);
+                    trial.passDayAt(first, end, law);
                 }
                 int standing = trial.standing();
                 stood += bridge == ALL ? Integer.bitCount(standing) : standing >> bridge & 1;
