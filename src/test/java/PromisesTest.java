@@ -284,11 +284,23 @@ public final class PromisesTest {
         }
         Due.is("8: 119 bytes", told(x, longest.toString()), 1);
         Due.is("8: 120 bytes", told(x, "-" + longest), 1);
+        StringBuilder sum = new StringBuilder("0");
+        while (sum.length() < 117) {
+            sum.append("+0");
+        }
+        Due.is("8: all steps of a long text count", given(sum + "+7"), 7);
+        Due.is("8: all steps of a longest text count", given("-" + sum + "+8"), 8);
         StringBuilder lines = new StringBuilder("0");
         while (lines.length() < 119) {
             lines.append(";0");
         }
         Due.is("8: 60 lines", told(x, lines.toString()), 1);
+        Due.is("8: the first of them counts", x.cracks(0), 0);
+        StringBuilder unlikely = new StringBuilder();
+        while (unlikely.length() < 116) {
+            unlikely.append("0?3;");
+        }
+        Due.is("8: the last of many lines", given(unlikely + "5"), 5);
     }
 
     private static void p8faults() {
@@ -296,13 +308,13 @@ public final class PromisesTest {
             "s<s<s", "s<s&s<s", "s<s=s", "(s<s)<s", "s<(s<s", "(", "()", "(s", "(s?s)", "(s;s)", "s)", "12345", "1234",
             "1s", "s1", "ss", "q", "S", "s(", "s!", "!", "-", "*s", "/s", "s**s", "s==s", "s||s", "s&&s", "s|", "s&",
             "(((((((s", "!!!!!!!s", "------s", "-------s", "!(!(!(!(s", "((((((-s", "((((((s))))))+((((((s))))))",
-            "((((((s)))))))", "-s-s-s-s-s-s-s-s", "(s)s", "(12345)", "s,s", "s?(s?s)", "h<1?2;r>0?12345", "!(s", "s%",
+            "((((((s)))))))", "((((((s))))))?((((((s))))));!!!!!!s", "s?(((((((s", "-s-s-s-s-s-s-s-s", "(s)s", "(12345)", "s,s", "s?(s?s)", "h<1?2;r>0?12345", "!(s", "s%",
             "!!!!!!(", "-(-(-(s)))+-(-(-(s)))", "s<s|s<s|s<s&s<s<s"};
         int[] due = {0, 0, 1, 2, 0, 2, 0, 3, 4, 4, 2, 2, -1, 2,
             3, -1, 3, -1, 6, 1, 1, 2, 2, 2, 1, 4, -1,
             1, 1, 1, 0, 0, 1, 1, 1, 1, 0, 0, 2, 2, 2, 2, 2, 2,
             6, 6, -1, 6, 6, 6, -1,
-            13, -1, 3, 5, 1, 4, 14, 3, 2,
+            13, -1, 8, -1, 3, 5, 1, 4, 14, 3, 2,
             6, -1, 15};
         for (int i = 0; i < texts.length; i++) {
             Due.is("8: law() of " + texts[i], told(new BeggarBridge(), texts[i]), due[i] < 0 ? 1 : -100 - due[i]);
@@ -566,6 +578,12 @@ public final class PromisesTest {
         }
         Due.is("17: what 4", x.way(1, 4), BAD);
         Due.is("17: what -1", x.way(1, -1), BAD);
+        BeggarBridge seven = new BeggarBridge();
+        for (int k = 0; k < 8; k++) {
+            seven.bridge(k == 2 ? 45 : 1, 1);
+        }
+        Due.is("17: seven side by side", seven.way(1, 2), 7);
+        Due.is("17: not the one elsewhere", seven.way(1, 3), 255 - 4);
         BeggarBridge all = line(7);
         Due.is("17: through all places", all.way(7, 0), 28);
         Due.is("17: by seven", all.way(70, 1), 7);
@@ -667,6 +685,7 @@ public final class PromisesTest {
         }
         Due.is("21: none has more", x.fined(0, 9999), 0);
         x.mend(0, 3, 10);
+        Due.is("21: all by one", x.fined(0, 10), 10);
         x.mend(1, 3, 12);
         x.mend(2, 3, 9);
         Due.is("21: one part of four", x.fined(0, 10), 2);
@@ -713,6 +732,11 @@ public final class PromisesTest {
         Due.is("23: the banker answers", x.byTurns(0, 205, 0), 79);
         Due.is("23: so the engineer does nothing", x.byTurns(0, 205, 1), 9);
         Due.is("23: the engineer once more", x.byTurns(0, 305, 0), 99);
+        x.mend(0, 7, 20);
+        Due.is("23: the banker gives 20, still nothing", x.byTurns(0, 205, 0), 99);
+        x.mend(0, 7, 19);
+        Due.is("23: the banker gives 20, more for a day", x.byTurns(0, 205, 0), 93);
+        x.mend(0, 7, 9);
         x.mend(0, 3, 99);
         Due.is("23: one who has more does not help", x.byTurns(0, 105, 1), 1);
         Due.is("23: from wherever; nobody moves in deed", x.of(1, 6), 1);
@@ -941,14 +965,28 @@ public final class PromisesTest {
         for (int i = 1; i <= 45; i++) {
             z.mend(0, 1, i);
         }
+        BeggarBridge mixed = line(7);
+        mixed.bridge(70, 4);
+        for (int i = 0; i < 43; i++) {
+            mixed.mend(i % 8, i % 2, 1 + i / 8);
+        }
+        for (int i = 42; i >= 3; i--) {
+            mixed.undo();
+            Due.is("32: of bridges by turns", mixed.of(i % 8, i % 2), i < 8 ? i % 2 == 0 ? 4 : 99 : i / 8);
+        }
         Due.is("32: 40 at most are kept", z.count(3), 40);
         for (int i = 39; i >= 0; i--) {
             Due.is("32: the latest first", z.undo(), i);
+            Due.is("32: what it was", z.of(0, 1), i + 5);
         }
         Due.is("32: no more", z.undo(), STATE);
         Due.is("32: as it was ahead of the 40", z.of(0, 1), 5);
         Due.is("33: all of them again", z.redo(), 39);
         Due.is("33: the first of them", z.of(0, 1), 6);
+        for (int i = 38; i >= 0; i--) {
+            Due.is("33: the next", z.redo(), i);
+            Due.is("33: what it became", z.of(0, 1), 45 - i);
+        }
     }
 
     private static void p34() {
