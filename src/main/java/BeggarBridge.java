@@ -121,7 +121,7 @@ public final class BeggarBridge {
             return BAD;
         }
         county.tally();
-        return county.crackOn(bridge, law);
+        return law.crackOn(county, bridge);
     }
 
     // ---- days in thought
@@ -169,7 +169,10 @@ public final class BeggarBridge {
         if (!isWithin(n, 0, MOVE_DAYS) || !isWithin(what, 0, 2)) {
             return BAD;
         }
-        thought.weighMoves(n);
+        thought.weighStaying(n);
+        for (int b = 0; b < county.beggars; b++) {
+            thought.weighMovesOf(b, n);
+        }
         if (what == 2) {
             return thought.bestMove;
         }
@@ -177,10 +180,11 @@ public final class BeggarBridge {
     }
 
     public int lasting(int bridge) {
-        if (bridge == ALL) {
-            return seats.most(0, 0);
+        if (bridge != ALL && !county.hasBridge(bridge)) {
+            return BAD;
         }
-        return county.hasBridge(bridge) ? seats.whoSitsOn(bridge) : BAD;
+        seats.ask();
+        return bridge == ALL ? seats.most(0, 0) : seats.whoSitsOn(bridge);
     }
 
     // ---- ways
@@ -226,27 +230,8 @@ public final class BeggarBridge {
         if (refusal != FINE) {
             return refusal;
         }
-        return ofMeans ? fitting(shelf, bridge, number, MEANS, what == 0)
-                : fitting(shelf, bridge, number, ALMS, what == 2);
-    }
-
-    private int fitting(int shelf, int bridge, int number, int sort, boolean howMany) {
-        int most = sort == MEANS ? MOST : MOST_ALMS;
-        // what is no matter to the BRIDGE need be tried only once
-        boolean matters = sort == MEANS ? county.read(number, SITS) == bridge : number == bridge;
-        int found = 0;
-        int least = NOT;
-        boolean so = false;
-        for (int v = most; v >= 0; v--) {
-            if (v == most || matters) {
-                so = thought.isSoWith(number, sort, v, bridge, shelves, shelf);
-            }
-            if (so) {
-                found++;
-                least = v;
-            }
-        }
-        return howMany ? found : least;
+        thought.tryBook(number, ofMeans ? MEANS : ALMS, bridge, shelves, shelf);
+        return what % 2 == 0 ? thought.fitting : thought.leastFitting;
     }
 
     public int fined(int beggar, int v) {
@@ -271,7 +256,9 @@ public final class BeggarBridge {
         if (!so || !county.hasBridge(bridge)) {
             return BAD;
         }
-        int sound = turns.play(county, bridge, n, t);
+        turns.begin(county, bridge, n, t);
+        // SOUND never grows, nor is it below 0: nobody can do better than these two
+        int sound = turns.outcome(n, 0, county.read(bridge, SOUND));
         return what == 0 ? sound : turns.first;
     }
 
@@ -602,13 +589,6 @@ public final class BeggarBridge {
             }
         }
 
-        int crackOn(int k, Law law) {
-            if (!hasBridge(k)) {
-                return 0;
-            }
-            return law.crack(span[k], poorOn[k], richOn[k], alms[k], today, sound[k]);
-        }
-
         void passDay(Law law) {
             passDayAt(NOWHERE, bridges, law);
         }
@@ -633,7 +613,7 @@ public final class BeggarBridge {
             }
             for (int k = Math.max(first, 0); k < end && k < bridges; k++) {
                 if (sound[k] > 0) {
-                    sound[k] = Math.max(0, sound[k] - crackOn(k, law));
+                    sound[k] = Math.max(0, sound[k] - law.crackOn(this, k));
                 }
             }
             today = today >= 6 ? 0 : today + 1;
@@ -860,16 +840,20 @@ public final class BeggarBridge {
             size = tape.size;
         }
 
-        int crack(int span, int nothing, int more, int alms, int today, int sound) {
-            if (size == 0) {
-                return held(span / 2 + 2 * more - 4 * nothing, MOST_CRACK);
+        /** By how much a BRIDGE cracks, by who sits there as it was tallied. */
+        int crackOn(County county, int k) {
+            if (!county.hasBridge(k)) {
+                return 0;
             }
-            named[SPAN_NAME] = span;
-            named[NOTHING_NAME] = nothing;
-            named[MORE_NAME] = more;
-            named[ALMS_NAME] = alms;
-            named[DAY_NAME] = today;
-            named[SOUND_NAME] = sound;
+            if (size == 0) {
+                return held(county.span[k] / 2 + 2 * county.richOn[k] - 4 * county.poorOn[k], MOST_CRACK);
+            }
+            named[SPAN_NAME] = county.span[k];
+            named[NOTHING_NAME] = county.poorOn[k];
+            named[MORE_NAME] = county.richOn[k];
+            named[ALMS_NAME] = county.alms[k];
+            named[DAY_NAME] = county.today;
+            named[SOUND_NAME] = county.sound[k];
             return held(worth(), MOST_CRACK);
         }
 
@@ -885,7 +869,8 @@ public final class BeggarBridge {
                     if (top >= Tape.STEPS) {
                         return 0;
                     }
-                    pile[top++] = step == Tape.NUMBER ? value : nameAt(value);
+                    boolean isName = step == Tape.NAME && value >= 0 && value < NAMES;
+                    pile[top++] = isName ? named[value] : value;
                 } else if (top <= 0) {
                     return 0;
                 } else if (step == Tape.END) {
@@ -903,10 +888,6 @@ public final class BeggarBridge {
                 }
             }
             return 0;
-        }
-
-        private int nameAt(int i) {
-            return i >= 0 && i < NAMES ? named[i] : 0;
         }
 
         private static int joined(int sign, int a, int b) {
@@ -937,8 +918,11 @@ public final class BeggarBridge {
         private final County trial = new County();
         private final County asked = new County();
         private final int[] ends = new int[BRIDGES];
+        private int unmoved;
         private int bestScore;
         private int bestMove;
+        private int fitting;
+        private int leastFitting;
 
         Thought(County now, Law law) {
             this.now = now;
@@ -1020,22 +1004,20 @@ public final class BeggarBridge {
             return fallOf(asked, bridge);
         }
 
-        /** MOVED: bestScore and bestMove are the answer. Only the two BRIDGES of a move end otherwise. */
-        void weighMoves(int n) {
+        /** MOVED begins with none; bestScore and bestMove are the answer so far. */
+        void weighStaying(int n) {
             asked.copyOf(now);
-            int unmoved = 0;
+            unmoved = 0;
             for (int k = 0; k < now.bridges && k < BRIDGES; k++) {
                 ends[k] = soundOf(asked, k, n);
                 unmoved += score(ends[k]);
             }
             bestScore = unmoved;
             bestMove = NO_MOVE;
-            for (int b = 0; b < now.beggars; b++) {
-                weighMovesOf(b, n, unmoved);
-            }
         }
 
-        private void weighMovesOf(int b, int n, int unmoved) {
+        /** Only the two BRIDGES of a move end otherwise. */
+        void weighMovesOf(int b, int n) {
             int home = now.read(b, SITS);
             int rest = unmoved;
             asked.write(b, SITS, NOWHERE);
@@ -1076,11 +1058,25 @@ public final class BeggarBridge {
             return NOT;
         }
 
-        /** Whether the BOOK of a BRIDGE is so, if one number of the county were v now. */
-        boolean isSoWith(int number, int what, int v, int bridge, Shelves shelves, int shelf) {
+        /** HAD, GIVEN: by how many numbers of a sort the BOOK of a BRIDGE is so, and by which least. */
+        void tryBook(int number, int sort, int bridge, Shelves shelves, int shelf) {
+            int most = sort == MEANS ? MOST : MOST_ALMS;
+            // what is no matter to the BRIDGE need be tried only once
+            boolean matters = sort == MEANS ? now.read(number, SITS) == bridge : number == bridge;
+            boolean so = false;
+            fitting = 0;
+            leastFitting = NOT;
             asked.copyOf(now);
-            asked.write(number, what, v);
-            return firstWrong(asked, bridge, shelves, shelf) == NOT;
+            for (int v = most; v >= 0; v--) {
+                if (v == most || matters) {
+                    asked.write(number, sort, v);
+                    so = firstWrong(asked, bridge, shelves, shelf) == NOT;
+                }
+                if (so) {
+                    fitting++;
+                    leastFitting = v;
+                }
+            }
         }
 
         /** How many BRIDGES STAND at the ends of n counties of m days; of one BRIDGE: how often. */
@@ -1120,17 +1116,16 @@ public final class BeggarBridge {
             this.thought = thought;
         }
 
-        int play(County now, int which, int n, int t) {
+        void begin(County now, int which, int n, int t) {
             table.copyOf(now);
             bridge = which;
             days = t;
             all = n;
             first = NOBODY;
-            // SOUND never grows, nor is it below 0: nobody can do better than these two
-            return outcome(n, 0, table.read(which, SOUND));
         }
 
-        private int outcome(int left, int low, int high) {
+        /** SOUND behind all, with so many turns left; low is sure for the engineer elsewhere, high for the banker. */
+        int outcome(int left, int low, int high) {
             if (left <= 0) {
                 return thought.soundOf(table, bridge, days);
             }
@@ -1175,6 +1170,8 @@ public final class BeggarBridge {
     /** LASTING: BRIDGES matched with BEGGARS who may sit there for ever. */
     private static final class Seats {
         private final County now;
+        /** Who may sit on each BRIDGE (bits). */
+        private final int[] willing = new int[BRIDGES];
         /** Which BRIDGE each BEGGAR has while most() looks; -1: none. */
         private final int[] has = new int[BEGGARS];
         private int asked;
@@ -1183,9 +1180,17 @@ public final class BeggarBridge {
             this.now = now;
         }
 
-        private boolean may(int b, int k) {
-            return now.savings(b) == 0
-                    && Math.min(now.read(b, ASKS), now.read(k, ALMS)) <= now.read(b, SPENDS);
+        /** To be called ahead of the others: who may sit where, as the county is now. */
+        void ask() {
+            for (int k = 0; k < now.bridges && k < BRIDGES; k++) {
+                willing[k] = 0;
+                for (int b = 0; b < now.beggars; b++) {
+                    int gets = Math.min(now.read(b, ASKS), now.read(k, ALMS));
+                    if (now.savings(b) == 0 && gets <= now.read(b, SPENDS)) {
+                        willing[k] |= 1 << b;
+                    }
+                }
+            }
         }
 
         /** The most BRIDGES from one on that have such a BEGGAR, without those that are used. */
@@ -1203,11 +1208,11 @@ public final class BeggarBridge {
 
         /** Whether a BRIDGE gets one, others changing theirs if need be. */
         private boolean finds(int k, int depth) {
-            if (depth > BEGGARS) {
+            if (depth > BEGGARS || k < 0 || k >= BRIDGES) {
                 return false;
             }
-            for (int b = 0; b < now.beggars && b < BEGGARS; b++) {
-                if ((asked >> b & 1) == 0 && may(b, k)) {
+            for (int b = 0; b < BEGGARS; b++) {
+                if ((willing[k] & ~asked & 1 << b) != 0) {
                     asked |= 1 << b;
                     if (has[b] == NOWHERE || finds(has[b], depth + 1)) {
                         has[b] = k;
@@ -1222,7 +1227,7 @@ public final class BeggarBridge {
             int left = most(0, 0);
             int used = 0;
             int who = NOBODY;
-            for (int k = 0; k <= bridge && k < now.bridges; k++) {
+            for (int k = 0; k <= bridge && k < BRIDGES; k++) {
                 who = firstFor(k, used, left);
                 if (who != NOBODY) {
                     used |= 1 << who;
@@ -1233,9 +1238,9 @@ public final class BeggarBridge {
         }
 
         private int firstFor(int k, int used, int left) {
-            for (int b = 0; b < now.beggars && left > 0; b++) {
-                boolean free = (used >> b & 1) == 0 && may(b, k);
-                if (free && most(k + 1, used | 1 << b) == left - 1) {
+            int free = k >= 0 && k < BRIDGES ? willing[k] & ~used : 0;
+            for (int b = 0; b < BEGGARS; b++) {
+                if ((free >> b & 1) != 0 && most(k + 1, used | 1 << b) == left - 1) {
                     return b;
                 }
             }

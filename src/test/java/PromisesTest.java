@@ -749,6 +749,11 @@ public final class PromisesTest {
         Due.is("23: what -1", x.byTurns(0, 100, -1), BAD);
         Due.is("23: no such bridge", x.byTurns(2, 100, 0), BAD);
         Due.is("23: no such bridge", x.byTurns(-1, 100, 0), BAD);
+        x.mend(0, 3, 0);
+        x.sits(0, 0);
+        x.mend(0, 1, 2);
+        told(x, "r+1");
+        Due.is("23: the banker wants the least, 0", x.byTurns(0, 201, 0), 0);
         x.mend(0, 1, 0);
         Due.is("23: one that fell", x.byTurns(0, 320, 0), 0);
         Due.is("23: nothing helps", x.byTurns(0, 320, 1), 9);
