@@ -961,12 +961,12 @@ public final class BeggarBridge {
         }
 
         int firstToFall() {
-            int all = (1 << now.bridges) - 1;
             trial.copyOf(now);
             for (int d = 0; d <= DAYS_AHEAD; d++) {
-                int fallen = all & ~trial.standing();
-                if (fallen != 0) {
-                    return Integer.numberOfTrailingZeros(fallen);
+                for (int k = 0; k < trial.bridges; k++) {
+                    if (!stands(trial, k)) {
+                        return k;
+                    }
                 }
                 trial.passDay(law);
             }
