@@ -1,5 +1,6 @@
 import java.nio.file.Files;
 import java.nio.file.Path;
+import java.util.Set;
 import java.util.regex.Matcher;
 import java.util.regex.Pattern;
 
@@ -8,7 +9,10 @@ public final class LanguageTest {
     private static final String[] BANNED = {
         "throw", "throws", "try", "catch", "synchronized", "assert", "volatile", "yield", "package",
         "Exception", "Error", "Object", "Random", "Thread", "System\\.(?!arraycopy)", "->", "::",
-        "hashCode", "toString\\(", "new [A-Z]\\w*\\([^)]*\\) *\\{", "Exact\\("};
+        "hashCode", "String toString\\(", "new [A-Z]\\w*\\([^)]*\\) *\\{", "Exact\\("};
+
+    private static final Set<String> IMPORTS = Set.of("java.util.Arrays", "java.util.ArrayList", "java.util.List",
+            "java.util.Iterator");
 
     public static void main(String[] args) throws Exception {
         String root = System.getProperty("project", ".");
@@ -21,7 +25,7 @@ public final class LanguageTest {
         }
         Matcher imports = Pattern.compile("import ([\\w.*]+);").matcher(code);
         while (imports.find()) {
-            Due.isTrue("the class imports " + imports.group(1), imports.group(1).equals("java.util.Arrays"));
+            Due.isTrue("the class imports " + imports.group(1), IMPORTS.contains(imports.group(1)));
         }
         for (int i = 0; i < whole.length(); i++) {
             Due.isTrue("a sign that is not plain at " + i, whole.charAt(i) < 128);

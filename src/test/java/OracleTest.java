@@ -74,11 +74,11 @@ public final class OracleTest {
     }
 
     private int aBridge() {
-        return near(0, Math.max(0, real.count(0) - 1));
+        return near(0, Math.max(0, oracle.count(0) - 1));
     }
 
     private int aBeggar() {
-        return near(0, Math.max(0, real.count(1) - 1));
+        return near(0, Math.max(0, oracle.count(1) - 1));
     }
 
     private int aShelf() {
@@ -123,7 +123,7 @@ public final class OracleTest {
             case 28: if (random.nextInt(4) == 0) call("byTurns", aBridge(), near(1, 3) * 100 + near(0, 20), near(0, 1)); break;
             case 29: if (random.nextInt(3) == 0) call("drawn", random.nextInt(), near(1, random.nextInt(4) == 0 ? 30 : 5) * 10000 + near(1, 60) * 100 + near(0, 12), random.nextBoolean() ? -1 : aBridge()); break;
             case 30: call("day"); break;
-            case 31: call("sits", aBeggar(), near(-1, real.count(0) - 1)); break;
+            case 31: call("sits", aBeggar(), near(-1, oracle.count(0) - 1)); break;
             case 32: call("given", aBeggar(), near(1, 99)); break;
             case 33: call("repair", aBridge(), near(1, 99)); break;
             case 34: call("led", near(0, 4)); break;
@@ -133,7 +133,7 @@ public final class OracleTest {
             case 38: call("redo"); break;
             case 39: call("body", near(0, 7)); break;
             case 40: anAct(); break;
-            case 41: call("keep", aShelf(), near(-1, real.count(4) - 1)); break;
+            case 41: call("keep", aShelf(), near(-1, oracle.count(4) - 1)); break;
             case 42: call("row", aShelf(), near(0, 4), random.nextBoolean() ? near(0, 60) : near(0, 5)); break;
             case 43: call("put", aShelf(), near(0, 10), random.nextBoolean() ? random.nextLong() : (long) near(0, 99)); break;
             case 44: call("element", aShelf(), near(0, 10)); break;
@@ -145,16 +145,16 @@ public final class OracleTest {
 
     private void aMending() throws Exception {
         int what = near(0, 8);
-        int[] most = {9, 99, 9, 99, 9, 9, real.count(0) - 1, 99, 6};
+        int[] most = {9, 99, 9, 99, 9, 9, oracle.count(0) - 1, 99, 6};
         int number = what < 3 ? aBridge() : what < 7 ? aBeggar() : near(0, 0);
         int v = what < 0 || what > 8 ? draw(10) : near(what == 0 ? 1 : what == 6 ? -1 : 0, most[what]);
         call("mend", number, what, what == 7 && random.nextBoolean() ? draw(30) : v);
     }
 
     private void anAct() throws Exception {
-        call("act", near(0, real.count(4) - 1), near(0, 3), random.nextBoolean() ? draw(20) - 10 : random.nextInt());
+        call("act", near(0, oracle.count(4) - 1), near(0, 3), random.nextBoolean() ? draw(20) - 10 : random.nextInt());
         call("count", 5);
-        int shown = Math.min(25, real.count(5) + 1);
+        int shown = Math.min(25, oracle.count(5) + 1);
         for (int i = 0; i < shown; i++) {
             call("trace", i);
         }
@@ -166,7 +166,7 @@ public final class OracleTest {
         int n = draw(30);
         call("row", shelf, 0, n);
         for (int i = 0; i < n; i++) {
-            int most = i % 4 == 0 ? 99 : i % 4 == 3 ? real.count(0) - 1 : 9;
+            int most = i % 4 == 0 ? 99 : i % 4 == 3 ? oracle.count(0) - 1 : 9;
             call("put", shelf, i, (long) (random.nextInt(30) == 0 ? draw(256) : i % 4 == 3 ? draw(most + 2) - 1 : draw(most + 1)));
         }
         call("beggars", random.nextInt(8) == 0 ? aShelf() : shelf, random.nextInt(3) == 0 ? near(0, n) : 0, near(1, 9));
