@@ -598,7 +598,8 @@ public final class BeggarBridge {
          * another one, so a question about one BRIDGE need not go through them all.
          */
         void passDayAt(int first, int end, Law law) {
-            for (int k = Math.max(first, 0); k < end && k < bridges; k++) {
+            int last = Math.min(end, Math.min(bridges, BRIDGES));
+            for (int k = Math.max(first, 0); k < last; k++) {
                 poorOn[k] = 0;
                 richOn[k] = 0;
             }
@@ -611,7 +612,7 @@ public final class BeggarBridge {
                     means[b] = held(means[b] + gets - spends[b], MOST);
                 }
             }
-            for (int k = Math.max(first, 0); k < end && k < bridges; k++) {
+            for (int k = Math.max(first, 0); k < last; k++) {
                 if (sound[k] > 0) {
                     sound[k] = Math.max(0, sound[k] - law.crackOn(this, k));
                 }
@@ -621,7 +622,7 @@ public final class BeggarBridge {
 
         int standing() {
             int bits = 0;
-            for (int k = 0; k < bridges; k++) {
+            for (int k = 0; k < bridges && k < BRIDGES; k++) {
                 if (sound[k] > 0) {
                     bits |= 1 << k;
                 }
@@ -631,7 +632,7 @@ public final class BeggarBridge {
 
         int soundOfAll() {
             int sum = 0;
-            for (int k = 0; k < bridges; k++) {
+            for (int k = 0; k < bridges && k < BRIDGES; k++) {
                 sum += sound[k];
             }
             return sum;
@@ -639,7 +640,7 @@ public final class BeggarBridge {
 
         int haveNothing() {
             int bits = 0;
-            for (int b = 0; b < beggars; b++) {
+            for (int b = 0; b < beggars && b < BEGGARS; b++) {
                 if (means[b] <= poor) {
                     bits |= 1 << b;
                 }
@@ -655,7 +656,7 @@ public final class BeggarBridge {
         int claimAt(int place) {
             tally();
             int sum = 0;
-            for (int k = 0; k < bridges; k++) {
+            for (int k = 0; k < bridges && k < BRIDGES; k++) {
                 if (from[k] == place || to[k] == place) {
                     sum += 10 * poorOn[k] + richOn[k];
                 }
@@ -1125,7 +1126,7 @@ public final class BeggarBridge {
         }
 
         /** SOUND behind all, with so many turns left; low is sure for the engineer elsewhere, high for the banker. */
-        int outcome(int left, int low, int high) {
+        private int outcome(int left, int low, int high) {
             if (left <= 0) {
                 return thought.soundOf(table, bridge, days);
             }
@@ -1616,7 +1617,7 @@ public final class BeggarBridge {
         }
 
         boolean hasRun(int shelf, int i, int n) {
-            return i >= 0 && n >= 0 && i <= sizeOf(shelf) && n <= sizeOf(shelf) - i;
+            return isRow(shelf) && i >= 0 && n >= 0 && i <= sizeOf(shelf) && n <= sizeOf(shelf) - i;
         }
 
         long at(int shelf, int i) {

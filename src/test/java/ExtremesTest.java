@@ -36,7 +36,32 @@ public final class ExtremesTest {
                 }
             }
         }
+        callsBehindTheLast();
         Due.end();
+    }
+
+    /** What an object answers behind its 512th call is free, but rule 7 of LANGUAGE.md holds: no call ever throws. */
+    private static void callsBehindTheLast() throws Exception {
+        Method[] methods = BeggarBridge.class.getDeclaredMethods();
+        java.util.Arrays.sort(methods, java.util.Comparator.comparing(Method::getName));
+        java.util.Random random = new java.util.Random(1);
+        BeggarBridge x = new BeggarBridge();
+        for (int n = 0; n < 30000; n++) {
+            Method m = methods[random.nextInt(methods.length)];
+            if (java.lang.reflect.Modifier.isPublic(m.getModifiers())) {
+                Object[] given = new Object[m.getParameterCount()];
+                for (int i = 0; i < given.length; i++) {
+                    int v = random.nextInt(4) == 0 ? random.nextInt(200) - 20 : random.nextInt(10);
+                    given[i] = m.getParameterTypes()[i] == long.class ? (Object) (long) v : (Object) v;
+                }
+                try {
+                    m.invoke(x, given);
+                } catch (java.lang.reflect.InvocationTargetException e) {
+                    Due.isTrue(m.getName() + java.util.Arrays.toString(given) + ", call " + n + ", throws "
+                            + e.getCause(), false);
+                }
+            }
+        }
     }
 
     private void begin() throws Exception {
