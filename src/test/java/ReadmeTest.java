@@ -20,10 +20,15 @@ public final class ReadmeTest {
     private static final Pattern NAMED = Pattern.compile("`([A-Za-z./]+)`");
 
     private static Path root;
+    /** Empty where only the tests of ../shared are at hand: then README is held to the class alone. */
+    private static String document = "";
 
     public static void main(String[] args) throws Exception {
         root = Path.of(System.getProperty("project", "."));
         String page = Files.readString(root.resolve("README.md"));
+        if (Files.exists(root.resolve("../shared/DOC.md"))) {
+            document = Files.readString(root.resolve("../shared/DOC.md"));
+        }
         callsAnswerAsTold(page);
         everyCallIsTold(page);
         everyConstantIsTold(page);
@@ -82,33 +87,51 @@ public final class ReadmeTest {
         throw new IllegalStateException("README tells a call that is not there: " + name);
     }
 
-    private static void everyCallIsTold(String page) throws Exception {
+    private static void everyCallIsTold(String page) {
         List<String> told = new ArrayList<>();
-        List<String> inDocument = new ArrayList<>();
+        Set<String> names = new TreeSet<>();
         Matcher row = ROW_OF_CALL.matcher(page);
         while (row.find()) {
             int width = row.group(2).isEmpty() ? 0 : row.group(2).split(", ").length;
             Due.is("README: numbers of " + row.group(1), width, methodNamed(row.group(1)).getParameterCount());
             told.add(row.group(1) + "(" + row.group(2) + ")");
-            refusalsAreTold(row.group(1), row.group(4));
+            names.add(row.group(1));
+            if (!document.isEmpty()) {
+                refusalsAreTold(row.group(1), row.group(4));
+            }
         }
-        Matcher face = Pattern.compile("(?m)^    public (?:int|long) (\\w+)\\((.*)\\);$")
-                .matcher(Files.readString(root.resolve("../shared/DOC.md")));
+        Set<String> there = new TreeSet<>();
+        for (Method m : BeggarBridge.class.getDeclaredMethods()) {
+            if (Modifier.isPublic(m.getModifiers())) {
+                there.add(m.getName());
+            }
+        }
+        Due.isTrue("README tells the calls " + names + " of " + there, names.equals(there));
+        if (!document.isEmpty()) {
+            callsAreToldInOrder(told);
+        }
+    }
+
+    private static void callsAreToldInOrder(List<String> told) {
+        List<String> due = new ArrayList<>();
+        Matcher face = Pattern.compile("(?m)^    public (?:int|long) (\\w+)\\((.*)\\);$").matcher(document);
         while (face.find()) {
-            inDocument.add(face.group(1) + "(" + face.group(2).replace("int ", "").replace("long ", "") + ")");
+            due.add(face.group(1) + "(" + face.group(2).replace("int ", "").replace("long ", "") + ")");
         }
-        Due.is("calls in the document", inDocument.size(), 42);
-        Due.isTrue("README tells " + told + " of " + inDocument, told.equals(inDocument));
+        Due.is("calls in the document", due.size(), 42);
+        Due.isTrue("README tells " + told + " of " + due, told.equals(due));
     }
 
     /** The refusals of a call are those that its promise in the document names. */
-    private static void refusalsAreTold(String name, String refusals) throws Exception {
-        String document = Files.readString(root.resolve("../shared/DOC.md"));
+    private static void refusalsAreTold(String name, String refusals) {
         Matcher promise = Pattern.compile("(?m)^`(?:int|long) " + name + "\\(.*?\\)`: (.*)$").matcher(document);
-        Due.isTrue("the document tells of " + name, promise.find());
-        String due = promise.group(1).replace("-11 to -13", "-11, -12, -13");
+        boolean isTold = promise.find();
+        Due.isTrue("the document tells of " + name, isTold);
+        if (!isTold) {
+            return;
+        }
         Set<String> told = namesOfRefusals(refusals);
-        Set<String> wanted = namesOfRefusals(due);
+        Set<String> wanted = namesOfRefusals(promise.group(1).replace("-11 to -13", "-11, -12, -13"));
         if (name.equals("mend") || name.equals("of") || name.equals("sits") || name.equals("element")) {
             // "VOID: BAD" and "Long.MIN_VALUE: BAD, -11 to -13": only the first is ever answered
             wanted.removeIf(word -> word.equals("BAD") || word.startsWith("-1"));
@@ -164,7 +187,8 @@ public final class ReadmeTest {
     private static void everyFileIsThere(String page) {
         Matcher m = NAMED.matcher(page);
         while (m.find()) {
-            if (m.group(1).contains("/")) {
+            boolean isBeside = m.group(1).startsWith("../");
+            if (m.group(1).contains("/") && !(isBeside && document.isEmpty())) {
                 Due.isTrue("README names " + m.group(1), Files.exists(root.resolve(m.group(1))));
             }
         }
